@@ -194,7 +194,9 @@ public final class AtomicThreads {
             if (strands[t].state == READY) {
                 return 0;
             }
-            someParked |= strands[t].state == PARKED;
+            if (strands[t].state == PARKED) {
+                someParked = true;
+            }
         }
         return someParked ? 2 : 1;
     }

@@ -14,6 +14,7 @@ public final class AttemptTest {
         discardIsCounted();
         twoThreads();
         commitAsLastWord();
+        commitInTry();
         allVariables();
         Check.end();
     }
@@ -205,6 +206,18 @@ public final class AttemptTest {
         Check.same("step", x.step(0), 1);
         Check.same("state", x.state(0), AtomicThreads.DONE);
         Check.same("log", x.log(0), 0);
+    }
+
+    /** The CATCH must end its TRY and nothing that the attempt left behind. */
+    private static void commitInTry() {
+        AtomicThreads x = Words.started("TRY; SET 1 5; ATOMIC; WRITE 0 1; END; CATCH 0; END; THROW 1");
+        Words.steps(x, 0, 4);
+        Check.same("step", x.step(0), 1);
+        Words.steps(x, 0, 1);
+        Check.same("place", x.place(0), 7);
+        Check.same("step", x.step(0), 4);
+        Check.same("state", x.state(0), AtomicThreads.FAILED);
+        Check.same("value", x.value(0), 5);
     }
 
     private static void allVariables() {

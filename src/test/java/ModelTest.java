@@ -2,7 +2,11 @@ import java.util.ArrayList;
 import java.util.List;
 import java.util.Random;
 
-/** Random runs of calls, the same each time, in which the class must answer as the model does. */
+/**
+ * Random runs of calls, the same each time, in which the class must answer as the model does. They
+ * look at an object more often than 512 times, which is more than the document promises: the class
+ * counts no calls, so that nothing may change there.
+ */
 public final class ModelTest {
     private static final int RUNS = 4000;
     private static final int CALLS = 120;
