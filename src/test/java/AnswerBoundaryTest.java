@@ -25,6 +25,7 @@ public final class AnswerBoundaryTest {
         discardsNeverStarted();
         discardsOfParkedAndStopped();
         discardsInStepAndRun();
+        discardsUntilStarted();
         outcomes();
         printedOutOfRange();
         printedNotSoMany();
@@ -389,6 +390,20 @@ public final class AnswerBoundaryTest {
         x.run(0, 3);
         Check.same("DONE", x.state(0), AtomicThreads.DONE);
         Check.same("discards", x.discards(0), 20);
+    }
+
+    private static void discardsUntilStarted() {
+        Check.about("discards: .. since it was started last");
+        AtomicThreads x = discardedOnce(0);
+        x.stop(0);
+        Words.append(x, 0, "IF 0");
+        Check.same("after add", x.discards(0), 1);
+        Check.no("start of a list that is not good", x.start(0));
+        Check.same("after a refused start", x.discards(0), 1);
+        Check.yes("cut", x.cut(0, 0));
+        Check.same("after cut", x.discards(0), 1);
+        Check.yes("start", x.start(0));
+        Check.same("after start", x.discards(0), 0);
     }
 
     private static void outcomes() {
